@@ -726,13 +726,16 @@ public final class Raidline {
 
         /** Keeps a line by rising numbers so. */
         void insertByNumber(int player) {
-            append(player);
-            for (int i = count - 1; i > 0 && i < members.length; i--) {
-                if (members[i - 1] > members[i]) {
-                    members[i] = members[i - 1];
-                    members[i - 1] = player;
-                }
+            if (count < 0 || count >= members.length) {
+                return;
             }
+            int place = count;
+            for (int i = count - 1; i >= 0 && i + 1 < members.length && members[i] > player; i--) {
+                members[i + 1] = members[i];
+                place = i;
+            }
+            members[place] = player;
+            count++;
         }
 
         /** Answers whether the player was there. */
@@ -1223,7 +1226,7 @@ public final class Raidline {
         private static final int ALL = 7;
         private static final int MOST_EMPTY = 2;
         private static final int STATES = 441;
-        private static final int CHECKED_RAIDS = 3;
+        private static final int CHECKED_RAIDS = 2;
 
         private double[] now = new double[STATES];
         private double[] later = new double[STATES];

@@ -209,15 +209,20 @@ final class MatchTest {
         x.raid(0);
         check.is("a bonus against 7", x.bonus(), 4);
         x.touch(1, true, true);
+        x.comeBack();
+        Games.emptyRaid(x);
+        x.raid(0);
+        check.is("a bonus against 6", x.bonus(), 4);
         x.touch(3, true, true);
         x.comeBack();
-        x.raid(9);
-        x.bonus();
-        x.comeBack();
+        Games.emptyRaid(x);
         x.raid(0);
         check.isUnsupported("no bonus against 5", x::bonus);
         x.comeBack();
-        for (int i = 3; i < 20; i++) {
+        check.is("two are out", x.onMat(1), 5);
+        Games.touchRaid(x, 1);
+        check.is("one comes back", Games.out(x, 1), "3");
+        for (int i = 6; i < 20; i++) {
             check.is("goes on", x.goesOn(), true);
             Games.emptyRaid(x);
         }

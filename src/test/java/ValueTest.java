@@ -110,6 +110,8 @@ final class ValueTest {
                     x.value(r, d, e, o, raids, c[0], c[1]), forward(r, d, e, o, raids, c[0], c[1]));
             }
         }
+        check.is("the first state", x.value(1, 1, 0, 0, 7, 31, 12), forward(1, 1, 0, 0, 7, 31, 12));
+        check.is("the last state", x.value(7, 7, 2, 2, 7, 31, 12), forward(7, 7, 2, 2, 7, 31, 12));
         check.is("ten raids", x.value(2, 3, 1, 2, 10, 37, 21), forward(2, 3, 1, 2, 10, 37, 21));
         check.is("twelve raids", x.value(7, 7, 0, 0, 12, 41, 29), forward(7, 7, 0, 0, 12, 41, 29));
         check.is("twelve raids from few", x.value(1, 1, 2, 1, 12, 13, 47), forward(1, 1, 2, 1, 12, 13, 47));
