@@ -8,6 +8,7 @@ public final class AllTests {
         if (args.length > 0) {
             LanguageTest.run(check, Path.of(args[0]));
         }
+        ExamplesTest.run(check);
         PlayersTest.run(check);
         AuctionTest.run(check);
         MatchTest.run(check);
