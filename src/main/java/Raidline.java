@@ -624,7 +624,8 @@ public final class Raidline {
     // Checks.
 
     public long checksum() {
-        return match.other.sumInto(match.first.sumInto(7L));
+        long start = 7L;
+        return match.begun == 0 ? start : match.other.sumInto(match.first.sumInto(start));
     }
 
     public boolean isTrue() {

@@ -582,6 +582,9 @@ final class Oracle {
 
     long checksum() {
         long sum = 7;
+        if (matches == 0) {
+            return sum;
+        }
         for (Team team : teams) {
             sum = 31 * sum + team.points;
             for (int player : team.mat) {

@@ -4,6 +4,7 @@ final class SumsTest {
     }
 
     static void run(Check check) {
+        checksumWithoutMatch(check);
         checksums(check);
         checksumOfTheLastMatch(check);
         truths(check);
@@ -17,8 +18,19 @@ final class SumsTest {
         return sum;
     }
 
+    /** There are no sides before the first match, so nothing comes behind the 7. */
+    private static void checksumWithoutMatch(Check check) {
+        check.is("of a new object", new Raidline().checksum(), 7L);
+        Raidline x = Games.squads(2, 3, 5, 5, 5);
+        check.is("with squads and players", x.checksum(), 7L);
+        check.isIllegalArgument("a match of one squad", () -> x.begin(0, 0, false));
+        check.isUnsupported("a match of too few players", () -> x.begin(0, 1, false));
+        check.is("behind matches that are refused", x.checksum(), 7L);
+        x.season();
+        check.is("behind a season without a match", x.checksum(), 7L);
+    }
+
     private static void checksums(Check check) {
-        check.is("without a match", new Raidline().checksum(), sum(0, 0));
         Raidline x = Games.match(4, 3, 1, true, 10);
         check.is("at the beginning", x.checksum(), sum(0, 0, 2, 4, 0, 1, 3, 5));
         x.raid(2);
