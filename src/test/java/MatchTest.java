@@ -1,231 +1,326 @@
-/** Promises 11 to 19 and 29: editions, matches, turns, and who stands where. */
+import java.util.function.Supplier;
+
+/** "Matches", and promises 13 to 19 and 29: turns, ends, and who stands where. */
 final class MatchTest {
+    private static final int[] NO_SIDES = {-1, 2, Integer.MIN_VALUE, Integer.MAX_VALUE};
+    private static final int[] NO_INDICES = {-1, 7, 12, Integer.MIN_VALUE, Integer.MAX_VALUE};
+
     private MatchTest() {
     }
 
     static void run(Check check) {
-        editions(check);
-        beginning(check);
-        beginningOrder(check);
-        lines(check);
-        linesOrder(check);
         turns(check);
+        turnInShortHalves(check);
+        turnWithoutMatch(check);
+        raidsOver(check);
+        points(check);
+        pointsOfNoSide(check);
+        onMat(check);
+        matAt(check);
+        outAt(check);
+        benchAt(check);
+        goesOn(check);
         overByHalves(check);
+        overThoughItMustBeWon(check);
         extraRaids(check);
+        leadInExtraRaids(check);
         goldenRaids(check);
-        firstEdition(check);
+        longGoldenRaids(check);
     }
 
-    private static void editions(Check check) {
-        Raidline x = new Raidline();
-        check.is("7 before", x.edition(3, 1, true, 2), 7);
-        check.is("3 before", x.edition(7, 7, false, 20), 3);
-        check.is("7 before", x.edition(5, 4, false, 10), 7);
-        int[] mats = {2, 8, -1, Integer.MAX_VALUE};
-        for (int mat : mats) {
-            check.isIllegalArgument("on the mat " + mat, () -> x.edition(mat, 1, true, 2));
-        }
-        int[] from = {0, 8, -1};
-        for (int number : from) {
-            check.isIllegalArgument("bonus from " + number, () -> x.edition(3, number, true, 2));
-        }
-        int[] raids = {0, 1, 3, 19, 21, 22, -2};
-        for (int number : raids) {
-            check.isIllegalArgument("raids " + number, () -> x.edition(3, 1, true, number));
-        }
-        check.is("5 before: what throws changes nothing", x.edition(3, 1, true, 2), 5);
-        Raidline y = Games.match(3, 3, 1, true, 2);
-        check.isIllegalState("while a match goes on", () -> y.edition(4, 1, true, 2));
-        check.isIllegalArgument("out of range, ahead of a match", () -> y.edition(2, 1, true, 2));
-    }
-
-    private static void beginning(Check check) {
-        Raidline x = Games.squads(3, 3, 5, 5, 5);
-        check.isUnsupported("too few for 7", () -> x.begin(0, 1, false));
-        x.edition(3, 1, true, 2);
-        check.is("the first match", x.begin(2, 1, false), 1);
-        check.is("it goes on", x.goesOn(), true);
-        check.is("first squad's mat", Games.mat(x, 0), "2 5 8");
-        check.is("other squad's mat", Games.mat(x, 1), "1 4 7");
-        for (int i = 0; i < 4; i++) {
-            Games.emptyRaid(x);
-        }
-        check.is("it is over", x.goesOn(), false);
-        check.is("the second match", x.begin(0, 1, true), 2);
-        check.is("raids anew", x.raids(), 0);
-        Raidline y = Games.squads(2, 4, 5, 5, 5);
-        y.edition(4, 1, true, 2);
-        check.is("just enough", y.begin(1, 0, false), 1);
-    }
-
-    private static void beginningOrder(Check check) {
-        Raidline x = Games.squads(2, 3, 5, 5, 5);
-        x.player(5, 5, 5, 'c');
-        check.isOutOfBounds("begin(2, 0)", () -> x.begin(2, 0, false));
-        check.isOutOfBounds("begin(0, 2)", () -> x.begin(0, 2, false));
-        check.isOutOfBounds("begin(-1, -1)", () -> x.begin(-1, -1, false));
-        check.isIllegalArgument("both the same, ahead of too few", () -> x.begin(1, 1, false));
-        x.putUp(6);
-        check.isUnsupported("too few, ahead of one put up", () -> x.begin(0, 1, false));
-        x.edition(3, 1, true, 2);
-        check.isIllegalState("one is put up", () -> x.begin(0, 1, false));
-        x.bid(0, 10);
-        x.knockDown();
-        x.squad();
-        check.isUnsupported("the other one has too few", () -> x.begin(0, 2, false));
-        check.isUnsupported("the first one has too few", () -> x.begin(2, 0, false));
-        x.begin(0, 1, false);
-        check.isIllegalState("a match goes on", () -> x.begin(1, 0, false));
-        check.isUnsupported("too few, ahead of a match", () -> x.begin(1, 2, false));
-        check.isIllegalArgument("the same, ahead of a match", () -> x.begin(0, 0, false));
-    }
-
-    private static void lines(Check check) {
-        Raidline x = Games.match(5, 3, 1, true, 4);
-        check.is("on the mat", x.onMat(0) + x.onMat(1), 6);
-        check.is("mat 0", Games.mat(x, 0), "0 2 4");
-        check.is("mat 1", Games.mat(x, 1), "1 3 5");
-        check.is("bench 0", Games.bench(x, 0), "6 8");
-        check.is("bench 1", Games.bench(x, 1), "7 9");
-        check.is("out 0", Games.out(x, 0), "");
-        Games.touchRaid(x, 2);
-        check.is("mat 1 behind touches", Games.mat(x, 1), "5");
-        check.is("out 1 behind touches", Games.out(x, 1), "1 3");
-        check.is("onMat(1)", x.onMat(1), 1);
-    }
-
-    private static void linesOrder(Check check) {
-        Raidline x = new Raidline();
-        int[] sides = {-1, 2, Integer.MIN_VALUE};
-        for (int side : sides) {
-            check.isIllegalArgument("points of side " + side, () -> x.points(side));
-            check.isIllegalArgument("onMat of side " + side, () -> x.onMat(side));
-            check.isIllegalArgument("matAt of side " + side, () -> x.matAt(side, 0));
-            check.isIllegalArgument("outAt of side " + side, () -> x.outAt(side, 0));
-            check.isIllegalArgument("benchAt of side " + side, () -> x.benchAt(side, 0));
-        }
-        check.isIllegalState("onMat without a match", () -> x.onMat(0));
-        check.isIllegalState("matAt without a match", () -> x.matAt(0, 99));
-        check.isIllegalState("outAt without a match", () -> x.outAt(1, 99));
-        check.isIllegalState("benchAt without a match", () -> x.benchAt(1, 99));
-        Raidline y = Games.match(4, 3, 1, true, 4);
-        Games.touchRaid(y, 1);
-        int[] indices = {-1, 3, 12, Integer.MAX_VALUE, Integer.MIN_VALUE};
-        for (int index : indices) {
-            check.isMissing("matAt " + index, () -> y.matAt(0, index));
-            check.isMissing("outAt " + index, () -> y.outAt(1, index));
-            check.isMissing("benchAt " + index, () -> y.benchAt(1, index));
-        }
-        check.is("the last one of them", y.matAt(0, 2), 4);
-        check.is("the only one out", y.outAt(1, 0), 1);
-        check.isMissing("behind the only one out", () -> y.outAt(1, 1));
-        check.isMissing("behind the only one on the bench", () -> y.benchAt(1, 1));
-        check.isIllegalArgument("no such side while one goes on", () -> y.matAt(2, 0));
+    private static Raidline toBeWon() {
+        Raidline game = Games.squads(2, 3, 5, 5, 5);
+        game.edition(3, 1, true, 2);
+        game.begin(0, 1, true);
+        return game;
     }
 
     private static void turns(Check check) {
-        Raidline x = Games.match(3, 3, 1, true, 4);
+        check.by("Matches", "Squads raid in turn, the first one first, in the second half the other one first.");
+        check.by("13", "Returns which squad raids next.");
+        check.by("13", "Returns 0 for the first squad of the match, 1 for the other one.");
+        Raidline x = Games.squads(2, 3, 5, 5, 5);
+        x.edition(3, 1, true, 4);
+        x.begin(1, 0, false);
         int[] due = {0, 1, 0, 1, 1, 0, 1, 0};
         for (int i = 0; i < due.length; i++) {
-            check.is("raids over", x.raids(), i);
-            check.is("turn of raid " + i, x.turn(), due[i]);
-            x.raid(x.matAt(due[i], 0));
-            check.is("turn in raid " + i, x.turn(), due[i]);
-            check.is("raids over in a raid", x.raids(), i);
-            x.stepOut(x.matAt(1 - due[i], 0));
+            check.is("the turn of raid " + i, x.turn(), due[i]);
+            Games.raid(x);
+            check.is("the turn in raid " + i, x.turn(), due[i]);
+            x.bonus();
             x.comeBack();
         }
-        check.isIllegalState("turn without a match", x::turn);
-        check.is("raids of the last match", x.raids(), 8);
-        check.isIllegalState("turn on a new object", () -> new Raidline().turn());
+        check.is("each side had four raids", Games.points(x), "4:4");
+    }
+
+    private static void turnInShortHalves(Check check) {
+        Raidline x = toBeWon();
+        int[] due = {0, 1, 1, 0, 0, 1, 0, 1, 0, 1, 0};
+        for (int i = 0; i < due.length; i++) {
+            check.is("the turn of raid " + i, x.turn(), due[i]);
+            Games.emptyRaids(x, 1);
+        }
+    }
+
+    private static void turnWithoutMatch(Check check) {
+        check.by("13", "Throws `IllegalStateException` if no match goes on");
+        check.illegalState("turn of a new object", Raidline::new, Raidline::turn);
+        check.illegalState("turn behind a match", Games.then(() -> Games.match(3, 3, 1, true, 2), Games::playOut), Raidline::turn);
+    }
+
+    private static void raidsOver(Check check) {
+        check.by("14", "Returns how many raids are over in the match that goes on, or was last.");
+        check.by("14", "Returns how many, 0 without one.");
+        check.is("without a match", new Raidline().raids(), 0);
+        Raidline x = Games.match(3, 3, 1, true, 2);
+        check.is("at the beginning", x.raids(), 0);
+        Games.raid(x);
+        check.is("in the first raid", x.raids(), 0);
+        x.comeBack();
+        check.is("behind the first raid", x.raids(), 1);
+        Games.playOut(x);
+        check.is("behind the match", x.raids(), 4);
+        x.season();
+        check.is("behind the season", x.raids(), 4);
+        Raidline y = Games.match(3, 3, 1, true, 2);
+        Games.playOut(y);
+        y.begin(0, 1, false);
+        check.is("in the next match", y.raids(), 0);
+    }
+
+    private static void points(Check check) {
+        check.by("15", "Returns the points of a squad in the match that goes on, or was last.");
+        check.by("15", "Returns the points, 0 without a match.");
+        check.is("without a match", Games.points(new Raidline()), "0:0");
+        Raidline x = Games.match(3, 3, 1, true, 2);
+        check.is("at the beginning", Games.points(x), "0:0");
+        Games.touchRaid(x, 2);
+        Games.bonusRaids(x, 1);
+        check.is("in the match", Games.points(x), "2:1");
+        Games.playOut(x);
+        check.is("behind the match", Games.points(x), "2:1");
+        x.begin(1, 0, false);
+        check.is("in the next match", Games.points(x), "0:0");
+    }
+
+    private static void pointsOfNoSide(Check check) {
+        check.by("15", "`side`: 0 for its first squad, 1 for the other one");
+        check.by("15", "Throws `IllegalArgumentException` if there is no such side");
+        for (int side : NO_SIDES) {
+            check.illegalArgument("points(" + side + ") without a match", Raidline::new, x -> x.points(side));
+            check.illegalArgument("points(" + side + ")", MatchTest::oneIsOut, x -> x.points(side));
+        }
+    }
+
+    /** Player 1 is out; 6 and 7 are on the benches. */
+    private static Raidline oneIsOut() {
+        Raidline game = Games.match(4, 3, 1, true, 2);
+        Games.touchRaid(game, 1);
+        return game;
+    }
+
+    private static Supplier<Raidline> over() {
+        return Games.then(MatchTest::oneIsOut, Games::playOut);
+    }
+
+    private static void onMat(Check check) {
+        check.by("16", "Returns how many of a side stand on the mat.");
+        check.by("16", "Returns how many.");
+        check.is("three and two", oneIsOut().onMat(0) + " " + oneIsOut().onMat(1), "3 2");
+        check.by("16", "`side`: the side, 0 or 1");
+        check.by("16", "Throws `IllegalArgumentException` if there is no such side");
+        for (int side : NO_SIDES) {
+            check.illegalArgument("onMat(" + side + ")", MatchTest::oneIsOut, x -> x.onMat(side));
+        }
+        check.by("16", "Throws `IllegalStateException` if no match goes on");
+        check.illegalState("onMat of a new object", Raidline::new, x -> x.onMat(0));
+        check.illegalState("onMat behind a match", over(), x -> x.onMat(1));
+    }
+
+    private static void matAt(Check check) {
+        check.by("17", "Returns a player on the mat, by rising numbers.");
+        check.by("17", "Returns the player.");
+        check.by("17", "`index`: the index, from 0");
+        check.is("the first one", oneIsOut().matAt(0, 0), 0);
+        check.is("the last one", oneIsOut().matAt(0, 2), 4);
+        check.is("behind one who is out", oneIsOut().matAt(1, 0), 3);
+        check.by("17", "`side`: the side, 0 or 1");
+        check.by("17", "Throws `IllegalArgumentException` if there is no such side");
+        for (int side : NO_SIDES) {
+            check.illegalArgument("matAt(" + side + ", 0)", MatchTest::oneIsOut, x -> x.matAt(side, 0));
+        }
+        check.by("17", "Throws `IllegalStateException` if no match goes on");
+        check.illegalState("matAt of a new object", Raidline::new, x -> x.matAt(0, 0));
+        check.illegalState("matAt behind a match", over(), x -> x.matAt(1, 0));
+        check.by("17", "Throws `NoSuchElementException` if there is none");
+        check.missing("matAt(0, 3) of three", MatchTest::oneIsOut, x -> x.matAt(0, 3));
+        check.missing("matAt(1, 2) of two", MatchTest::oneIsOut, x -> x.matAt(1, 2));
+        for (int index : NO_INDICES) {
+            check.missing("matAt(0, " + index + ")", MatchTest::oneIsOut, x -> x.matAt(0, index));
+        }
+    }
+
+    private static void outAt(Check check) {
+        check.by("18", "Returns a player who is out, the one who is out longest first.");
+        check.by("18", "Returns the player.");
+        check.by("18", "`index`: the index, from 0");
+        check.is("the only one", oneIsOut().outAt(1, 0), 1);
+        Raidline y = Games.match(4, 4, 1, true, 2);
+        Games.raid(y);
+        y.stepOut(5);
+        y.stepOut(1);
+        y.comeBack();
+        check.is("the one who is out longest", y.outAt(1, 0), 5);
+        check.is("the one who is out behind", y.outAt(1, 1), 1);
+        check.by("18", "`side`: the side, 0 or 1");
+        check.by("18", "Throws `IllegalArgumentException` if there is no such side");
+        for (int side : NO_SIDES) {
+            check.illegalArgument("outAt(" + side + ", 0)", MatchTest::oneIsOut, x -> x.outAt(side, 0));
+        }
+        check.by("18", "Throws `IllegalStateException` if no match goes on");
+        check.illegalState("outAt of a new object", Raidline::new, x -> x.outAt(0, 0));
+        check.illegalState("outAt behind a match", over(), x -> x.outAt(1, 0));
+        check.by("18", "Throws `NoSuchElementException` if there is none");
+        check.missing("outAt(0, 0) of none", MatchTest::oneIsOut, x -> x.outAt(0, 0));
+        check.missing("outAt(1, 1) of one", MatchTest::oneIsOut, x -> x.outAt(1, 1));
+        for (int index : NO_INDICES) {
+            check.missing("outAt(1, " + index + ")", MatchTest::oneIsOut, x -> x.outAt(1, index));
+        }
+    }
+
+    private static void benchAt(Check check) {
+        check.by("19", "Returns a player on the bench.");
+        check.by("19", "Returns the player.");
+        check.by("19", "`index`: the index, from 0");
+        check.is("the only one", oneIsOut().benchAt(1, 0), 7);
+        check.is("the second one", Games.match(5, 3, 1, true, 2).benchAt(0, 1), 8);
+        check.by("19", "`side`: the side, 0 or 1");
+        check.by("19", "Throws `IllegalArgumentException` if there is no such side");
+        for (int side : NO_SIDES) {
+            check.illegalArgument("benchAt(" + side + ", 0)", MatchTest::oneIsOut, x -> x.benchAt(side, 0));
+        }
+        check.by("19", "Throws `IllegalStateException` if no match goes on");
+        check.illegalState("benchAt of a new object", Raidline::new, x -> x.benchAt(0, 0));
+        check.illegalState("benchAt behind a match", over(), x -> x.benchAt(1, 0));
+        check.by("19", "Throws `NoSuchElementException` if there is none");
+        check.missing("benchAt(0, 0) of none", () -> Games.match(3, 3, 1, true, 2), x -> x.benchAt(0, 0));
+        check.missing("benchAt(1, 1) of one", MatchTest::oneIsOut, x -> x.benchAt(1, 1));
+        for (int index : NO_INDICES) {
+            check.missing("benchAt(1, " + index + ")", MatchTest::oneIsOut, x -> x.benchAt(1, index));
+        }
+        Raidline y = oneIsOut();
+        Games.playOut(y);
+        y.begin(0, 1, false);
+        check.is("the next match begins anew", Games.mat(y, 1) + "/" + Games.out(y, 1) + "/" + Games.bench(y, 1), "1 3 5//7");
+    }
+
+    private static void goesOn(Check check) {
+        check.by("29", "Tells whether a match goes on.");
+        check.by("29", "Returns whether one does.");
+        check.is("a new object", new Raidline().goesOn(), false);
+        Raidline x = Games.match(3, 3, 1, true, 2);
+        check.is("at the beginning", x.goesOn(), true);
+        Games.emptyRaids(x, 3);
+        Games.raid(x);
+        check.is("in the last raid", x.goesOn(), true);
+        x.comeBack();
+        check.is("behind it", x.goesOn(), false);
+        x.begin(0, 1, false);
+        check.is("in the next match", x.goesOn(), true);
     }
 
     private static void overByHalves(Check check) {
-        Raidline x = Games.squads(2, 3, 5, 5, 5);
-        x.edition(3, 1, true, 2);
-        x.begin(0, 1, false);
-        for (int i = 0; i < 4; i++) {
-            check.is("goes on", x.goesOn(), true);
-            Games.emptyRaid(x);
-        }
-        check.is("over, though level", x.goesOn(), false);
-        check.is("a draw", x.league(0) + x.league(1), 6);
-        x.begin(0, 1, true);
+        check.by("Matches", "At the end of the halves it is over,");
+        Raidline x = Games.match(3, 3, 1, true, 2);
+        Games.emptyRaids(x, 3);
+        check.is("behind 3 of 4 raids", x.goesOn(), true);
+        Games.emptyRaids(x, 1);
+        check.is("behind 4 of 4 raids, level", x.goesOn(), false);
+        Raidline y = Games.match(3, 3, 1, true, 2);
+        Games.emptyRaids(y, 3);
+        Games.touchRaid(y, 1);
+        check.is("behind 4 of 4 raids, not level", y.goesOn(), false);
+        check.isIllegalState("a raid behind the match", () -> y.raid(0));
+    }
+
+    private static void overThoughItMustBeWon(Check check) {
+        check.by("Matches", "unless it must be won and is level:");
+        Raidline x = toBeWon();
         Games.touchRaid(x, 1);
-        for (int i = 0; i < 3; i++) {
-            check.is("goes on", x.goesOn(), true);
-            Games.emptyRaid(x);
-        }
-        check.is("over as one leads", x.goesOn(), false);
-        check.is("points of the last match", x.points(0), 1);
-        check.is("a win", x.league(0), 8);
-        check.is("a loss by 1", x.league(1), 4);
-        check.isIllegalState("no raid any more", () -> x.raid(0));
-        check.isIllegalState("onMat any more", () -> x.onMat(0));
+        Games.emptyRaids(x, 2);
+        check.is("behind 3 of 4 raids, not level", x.goesOn(), true);
+        Games.emptyRaids(x, 1);
+        check.is("behind 4 of 4 raids, not level", x.goesOn(), false);
+        check.is("without extra raids", x.raids(), 4);
+        Raidline y = toBeWon();
+        Games.touchRaid(y, 1);
+        Games.touchRaid(y, 1);
+        Games.emptyRaids(y, 2);
+        check.is("level at 1:1", y.goesOn(), true);
+        Raidline z = toBeWon();
+        Games.emptyRaids(z, 4);
+        check.is("level at 0:0", z.goesOn(), true);
+        check.is("no result yet", z.league(0) + z.league(1), 0);
     }
 
     private static void extraRaids(Check check) {
-        Raidline x = Games.squads(2, 3, 5, 5, 5);
-        x.edition(3, 1, true, 2);
-        x.begin(0, 1, true);
+        check.by("Matches", "then there are 4 extra raids, in turn, the first squad first,");
+        Raidline x = toBeWon();
+        Games.emptyRaids(x, 4);
         for (int i = 0; i < 4; i++) {
-            Games.emptyRaid(x);
+            check.is("goes on behind " + i + " extra raids", x.goesOn(), true);
+            check.is("the turn of an extra raid", x.turn(), i % 2);
+            Games.bonusRaids(x, i == 3 ? 0 : 1);
+            Games.emptyRaids(x, i == 3 ? 1 : 0);
         }
-        check.is("extra raids", x.goesOn(), true);
-        int[] due = {0, 1, 0, 1};
-        for (int i = 0; i < 4; i++) {
-            check.is("goes on, though one leads", x.goesOn(), true);
-            check.is("turn of an extra raid", x.turn(), due[i]);
-            Games.touchRaid(x, i == 0 ? 2 : 1);
-        }
-        check.is("over behind four", x.goesOn(), false);
+        check.is("over behind four, not level", x.goesOn(), false);
         check.is("raids", x.raids(), 8);
-        check.is("points", x.points(0) * 10 + x.points(1), 32);
+        check.is("points", Games.points(x), "2:1");
+        check.is("a win and a loss", x.league(0) + " " + x.league(1), "5 1");
+    }
+
+    private static void leadInExtraRaids(Check check) {
+        Raidline x = toBeWon();
+        Games.bonusRaids(x, 4);
+        Games.bonusRaids(x, 1);
+        check.is("one leads behind 1 of 4", x.goesOn(), true);
+        Games.emptyRaids(x, 2);
+        check.is("one leads behind 3 of 4", x.goesOn(), true);
+        Games.bonusRaids(x, 1);
+        check.is("level behind 4 of 4", x.goesOn(), true);
     }
 
     private static void goldenRaids(Check check) {
-        Raidline x = Games.squads(2, 3, 5, 5, 5);
-        x.edition(3, 1, true, 2);
-        x.begin(0, 1, true);
-        for (int i = 0; i < 8; i++) {
-            Games.touchRaid(x, 1);
-        }
-        check.is("level behind the extra raids", x.points(0) - x.points(1), 0);
-        check.is("golden raids", x.goesOn(), true);
-        check.is("the first squad first", x.turn(), 0);
-        Games.emptyRaid(x);
-        check.is("goes on", x.goesOn(), true);
-        check.is("in turn", x.turn(), 1);
-        Games.touchRaid(x, 1);
-        check.is("over behind the first that leads", x.goesOn(), false);
-        check.is("raids", x.raids(), 10);
-        check.is("a win for the other one", x.league(1), 5);
+        check.by("Matches", "and, level still, golden raids in turn until one of the squads leads behind one.");
+        Raidline x = toBeWon();
+        Games.bonusRaids(x, 8);
+        check.is("level behind the extra raids", x.goesOn(), true);
+        check.is("the turn of the first golden raid", x.turn(), 0);
+        Raidline y = toBeWon();
+        Games.bonusRaids(y, 8);
+        Games.bonusRaids(y, 1);
+        check.is("one leads behind the first", y.goesOn() + " " + y.raids(), "false 9");
+        Games.emptyRaids(x, 1);
+        check.is("level behind the first", x.goesOn(), true);
+        check.is("the turn of the second one", x.turn(), 1);
+        Games.raid(x);
+        x.bonus();
+        check.is("a lead within a golden raid", x.goesOn(), true);
+        x.comeBack();
+        check.is("one leads behind the second", x.goesOn() + " " + x.raids(), "false 10");
+        check.is("a loss and a win", x.league(0) + " " + x.league(1), "1 5");
     }
 
-    private static void firstEdition(Check check) {
-        Raidline x = Games.squads(2, 8, 5, 5, 5);
-        x.begin(0, 1, false);
-        check.is("7 on the mat", x.onMat(0), 7);
-        x.raid(0);
-        check.is("a bonus against 7", x.bonus(), 4);
-        x.touch(1, true, true);
-        x.comeBack();
-        Games.emptyRaid(x);
-        x.raid(0);
-        check.is("a bonus against 6", x.bonus(), 4);
-        x.touch(3, true, true);
-        x.comeBack();
-        Games.emptyRaid(x);
-        x.raid(0);
-        check.isUnsupported("no bonus against 5", x::bonus);
-        x.comeBack();
-        check.is("two are out", x.onMat(1), 5);
-        Games.touchRaid(x, 1);
-        check.is("one comes back", Games.out(x, 1), "3");
-        for (int i = 6; i < 20; i++) {
-            check.is("goes on", x.goesOn(), true);
-            Games.emptyRaid(x);
+    private static void longGoldenRaids(Check check) {
+        Raidline x = toBeWon();
+        Games.bonusRaids(x, 8);
+        for (int i = 0; i < 4; i++) {
+            check.is("the turn of golden raid " + i, x.turn(), i % 2);
+            Games.emptyRaids(x, 1);
+            check.is("goes on behind golden raid " + i, x.goesOn(), true);
         }
-        check.is("over behind 20 raids", x.goesOn(), false);
+        check.is("do or die", Games.raid(x), true);
+        x.comeBack();
+        check.is("one leads behind the fifth", x.goesOn() + " " + x.raids() + " " + Games.points(x), "false 13 4:5");
     }
 }

@@ -1,0 +1,59 @@
+import java.nio.charset.StandardCharsets;
+import java.nio.file.Files;
+import java.nio.file.Path;
+import java.util.LinkedHashMap;
+import java.util.Map;
+
+/**
+ * The parts of the document that promise something, by their names: the paragraphs of "Terms" ("Terms" is the first
+ * one), its "Examples", and the promises by their numbers.
+ */
+final class Document {
+    private static final String PROMISE = "## Promise ";
+    private static final String[] TERMS = {
+        "Players", "Auctions", "Matches", "Raids", "Points", "Empty raids", "All out", "Cards", "Substitutes",
+        "Reviews", "Statistics", "Values", "League", "Exceptions",
+    };
+
+    private Document() {
+    }
+
+    static Map<String, String> read(Path file) throws java.io.IOException {
+        Map<String, String> parts = new LinkedHashMap<>();
+        String section = "";
+        for (String line : Files.readString(file, StandardCharsets.UTF_8).split("\n")) {
+            if (line.startsWith("## ")) {
+                section = line.startsWith(PROMISE) ? line.substring(PROMISE.length(), line.indexOf(':')) : line.substring(3);
+            } else if (section.equals("Terms")) {
+                addTerm(parts, line);
+            } else if (!section.isEmpty() && Character.isDigit(section.charAt(0))) {
+                parts.merge(section, promised(line), (before, more) -> before + " " + more);
+            }
+        }
+        return parts;
+    }
+
+    private static void addTerm(Map<String, String> parts, String line) {
+        if (line.startsWith("Who stands on the mat")) {
+            parts.put("Terms", line);
+        } else if (line.startsWith("- ")) {
+            parts.merge("Examples", line.substring(2), (before, more) -> before + " " + more);
+        }
+        for (String term : TERMS) {
+            if (line.startsWith(term + ". ")) {
+                parts.put(term, line.substring(term.length() + 2));
+            }
+        }
+    }
+
+    /** What a line of a promise tells beyond the face; of parameters only those lines that name a range. */
+    private static String promised(String line) {
+        if (line.startsWith("`")) {
+            return line.substring(line.indexOf("`: ") + 3);
+        }
+        if (line.startsWith("- ")) {
+            return line.matches(".*([0-9]|'.').*") ? line.substring(2) : "";
+        }
+        return line;
+    }
+}
