@@ -15,6 +15,7 @@ public final class AllTests {
             check.isWholeDocument(Path.of(args[1]));
         }
         RandomRunsTest.run(check);
+        WildCallsTest.run(check);
         System.out.println("own: " + check.passed() + " passed, " + check.failed() + " failed");
         if (check.failed() > 0) {
             System.exit(1);

@@ -79,6 +79,11 @@ final class CardsTest {
         Games.bonusRaids(y, 4);
         check.is("green behind yellow", y.card(1, 'g'), 'g');
         check.is("yellow behind green", y.card(3, 'g') + " " + y.card(3, 'y'), "g y");
+        Raidline z = match();
+        z.card(0, 'g');
+        z.substitute(0, 8);
+        z.substitute(8, 0);
+        check.is("the second one behind a time on the bench", z.card(0, 'g'), 'y');
     }
 
     private static void greenInEachMatch(Check check) {

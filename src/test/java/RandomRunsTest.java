@@ -1,8 +1,11 @@
 import java.util.Random;
 
-/** Runs of calls by fixed seeds, wrong ones too, each answer compared with that of the oracle. */
+/**
+ * Runs of calls by fixed seeds, wrong ones too, each answer compared with that of the oracle. In every other run
+ * the checksum is asked for behind each call, too.
+ */
 final class RandomRunsTest {
-    private static final int RUNS = 1000;
+    private static final int RUNS = 2000;
     private static final int CALLS = 512;
 
     private final Random random;
@@ -51,13 +54,15 @@ final class RandomRunsTest {
             return;
         }
         calls++;
+        boolean isSummed = run % 2 == 0 && calls < CALLS;
+        calls += isSummed ? 1 : 0;
         boolean wasOn = oracle.goesOn();
         int before = wasOn ? oracle.points(0) + oracle.points(1) : 0;
         String answer = Check.answerOf(due);
         String got = Check.answerOf(ours);
         if (!got.equals(answer)) {
             wrong = "call " + calls + " " + call + " answered " + got + ", due is " + answer;
-        } else if (game.checksum() != oracle.checksum()) {
+        } else if (isSummed && game.checksum() != oracle.checksum()) {
             wrong = "call " + calls + " " + call + " left another checksum";
         }
         count(call, answer, wasOn && !oracle.goesOn(), oracle.points(0) + oracle.points(1) - before);

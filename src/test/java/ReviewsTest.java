@@ -29,6 +29,7 @@ final class ReviewsTest {
         noSuchPlayer(check);
         noSuchSide(check);
         betweenRaids(check);
+        endOfTheHalf(check);
         endOfTheMatch(check);
     }
 
@@ -382,6 +383,34 @@ final class ReviewsTest {
         check.illegalState("without a match", () -> Games.squads(2, 3, 5, 5, 5), x -> x.review(0, 1));
         check.illegalState("in the raid", ReviewsTest::raid, x -> x.review(0, 3));
         check.illegalState("in the next raid", Games.then(ReviewsTest::pause, Games::raid), x -> x.review(0, 3));
+    }
+
+    /** Side 1 raids at the end of the first half, and at the beginning of the second one. */
+    private static void endOfTheHalf(Check check) {
+        for (int before = 1; before <= 2; before++) {
+            Raidline x = Games.match(4, 4, 1, true, 2);
+            Games.bonusRaids(x, before);
+            x.raid(1);
+            x.touch(0, true, false);
+            x.touch(2, false, true);
+            x.comeBack();
+            int points = x.points(1);
+            check.is("put right", x.review(0, 0) + " " + Games.mat(x, 0) + "/" + Games.out(x, 0), "true 4 6/2 0");
+            check.is("a point of the raiders", x.points(1), points + 1);
+            check.is("put right", x.review(1, 2) + " " + Games.mat(x, 0) + "/" + Games.out(x, 0), "true 2 4 6/0");
+            check.is("a point of the raiders less", x.points(1), points);
+            check.is("the others' points", x.points(0), 1);
+        }
+        Raidline y = Games.squads(2, 4, 5, 5, 5);
+        y.edition(4, 1, true, 2);
+        y.begin(0, 1, true);
+        Games.bonusRaids(y, 3);
+        y.raid(0);
+        y.touch(1, false, true);
+        y.comeBack();
+        check.is("ahead of the extra raids", Games.points(y) + " " + y.goesOn(), "2:2 true");
+        check.is("put right", y.review(1, 1) + " " + Games.mat(y, 1) + " " + Games.points(y), "true 1 3 5 7 1:2");
+        check.is("the extra raids come all the same", y.goesOn() + " " + y.turn(), "true 0");
     }
 
     private static void endOfTheMatch(Check check) {
