@@ -84,6 +84,8 @@ final class CardsTest {
         z.substitute(0, 8);
         z.substitute(8, 0);
         check.is("the second one behind a time on the bench", z.card(0, 'g'), 'y');
+        Games.bonusRaids(z, 4);
+        check.is("the third one is yellow, too", z.card(0, 'g') + Games.out(z, 0), "y");
     }
 
     private static void greenInEachMatch(Check check) {
