@@ -1,19 +1,20 @@
-import java.nio.file.Files;
 import java.nio.file.Path;
 
-/** Runs every test of the project; the arguments are the paths of Raidline.java and of the document. */
+/** Runs every test of the project; the arguments are the project's directory and the path of the document. */
 public final class AllTests {
     public static void main(String[] args) throws Exception {
+        if (args.length < 2) {
+            System.out.println("needed: the project's directory and the path of the document");
+            System.exit(2);
+        }
+        Path project = Path.of(args[0]);
+        Path document = Path.of(args[1]);
         Check check = new Check();
-        FaceTest.run(check);
-        if (args.length > 0) {
-            LanguageTest.run(check, Path.of(args[0]));
-        }
-        ExamplesTest.run(check);
+        FaceTest.run(check, document);
+        LanguageTest.run(check, project.resolve("src/main/java/Raidline.java"));
+        ReadmeTest.run(check, project);
         runPromises(check);
-        if (args.length > 1 && Files.exists(Path.of(args[1]))) {
-            check.isWholeDocument(Path.of(args[1]));
-        }
+        check.isWholeDocument(document);
         RandomRunsTest.run(check);
         WildCallsTest.run(check);
         System.out.println("own: " + check.passed() + " passed, " + check.failed() + " failed");
@@ -23,6 +24,8 @@ public final class AllTests {
     }
 
     static void runPromises(Check check) {
+        WhatItIsTest.run(check);
+        ExamplesTest.run(check);
         PlayersTest.run(check);
         AuctionTest.run(check);
         SeasonTest.run(check);

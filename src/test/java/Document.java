@@ -1,12 +1,14 @@
 import java.nio.charset.StandardCharsets;
 import java.nio.file.Files;
 import java.nio.file.Path;
+import java.util.ArrayList;
 import java.util.LinkedHashMap;
+import java.util.List;
 import java.util.Map;
 
 /**
- * The parts of the document that promise something, by their names: the paragraphs of "Terms" ("Terms" is the first
- * one), its "Examples", and the promises by their numbers.
+ * The parts of the document that promise something, by their names: "What it is", the paragraphs of "Terms" ("Terms"
+ * is the first one), its "Examples", and the promises by their numbers. The public face is told by itself.
  */
 final class Document {
     private static final String PROMISE = "## Promise ";
@@ -26,11 +28,22 @@ final class Document {
                 section = line.startsWith(PROMISE) ? line.substring(PROMISE.length(), line.indexOf(':')) : line.substring(3);
             } else if (section.equals("Terms")) {
                 addTerm(parts, line);
-            } else if (!section.isEmpty() && Character.isDigit(section.charAt(0))) {
+            } else if (section.equals("What it is") || !section.isEmpty() && Character.isDigit(section.charAt(0))) {
                 parts.merge(section, promised(line), (before, more) -> before + " " + more);
             }
         }
         return parts;
+    }
+
+    /** The members of the public face, as the document writes them. */
+    static List<String> face(Path file) throws java.io.IOException {
+        List<String> members = new ArrayList<>();
+        for (String line : Files.readString(file, StandardCharsets.UTF_8).split("\n")) {
+            if (line.startsWith("    public ") && line.endsWith(";")) {
+                members.add(line.substring(4, line.length() - 1));
+            }
+        }
+        return members;
     }
 
     private static void addTerm(Map<String, String> parts, String line) {

@@ -1,66 +1,87 @@
 import java.lang.reflect.Constructor;
+import java.lang.reflect.Executable;
 import java.lang.reflect.Field;
 import java.lang.reflect.Method;
 import java.lang.reflect.Modifier;
+import java.nio.file.Path;
 import java.util.ArrayList;
+import java.util.Arrays;
 import java.util.Collections;
+import java.util.HashSet;
 import java.util.List;
+import java.util.Set;
+import java.util.stream.Collectors;
 
-/** The public face, as the document has it. */
+/** "The public face": the class has its members, each with its exceptions in their order, and no others. */
 final class FaceTest {
-    private static final String[] FACE = {
-        "int player(int,int,int,char)", "int squad()", "int putUp(int)", "int bid(int,int)", "int match(int)",
-        "int knockDown()", "int squadOf(int)", "int purse(int)", "int season()",
-        "int edition(int,int,boolean,int)", "int begin(int,int,boolean)", "int turn()", "int raids()",
-        "int points(int)", "int onMat(int)", "int matAt(int,int)", "int outAt(int,int)", "int benchAt(int,int)",
-        "boolean raid(int)", "int touch(int,boolean,boolean)", "int bonus()", "int struggle(int)",
-        "int stepOut(int)", "int comeBack()", "char card(int,char)", "int substitute(int,int)",
-        "boolean review(int,int)", "boolean goesOn()", "int told(int,char)",
-        "double value(int,int,int,int,int,int,int)", "int league(int)", "int placed(int)", "int champion()",
-        "float emptyShare()", "double meanPoints()", "long checksum()", "boolean isTrue()",
-    };
+    private static final int MEMBERS = 38;
 
     private FaceTest() {
     }
 
-    static void run(Check check) {
-        List<String> due = new ArrayList<>(List.of(FACE));
+    static void run(Check check, Path document) throws java.io.IOException {
+        List<String> due = new ArrayList<>();
+        for (String member : Document.face(document)) {
+            due.add(withoutNames(member));
+        }
+        check.is("members of the face", due.size(), MEMBERS);
         List<String> got = new ArrayList<>();
+        for (Constructor<?> constructor : Raidline.class.getDeclaredConstructors()) {
+            got.add(written(constructor, "Raidline"));
+        }
         for (Method method : Raidline.class.getDeclaredMethods()) {
             if (!Modifier.isPrivate(method.getModifiers()) && !method.isSynthetic()) {
-                got.add(written(method));
-                check.is(method.getName() + " is public", Modifier.isPublic(method.getModifiers()), true);
-            } else if (!method.isSynthetic()) {
-                check.is(method.getName() + " bears a public name", isPublicName(method.getName()), false);
+                got.add(written(method, method.getReturnType() + " " + method.getName()));
             }
         }
         Collections.sort(due);
         Collections.sort(got);
-        check.is("the methods", got, due);
+        check.is("the face", String.join("\n", got), String.join("\n", due));
+        check.is("the class is public and final", Raidline.class.getModifiers(), Modifier.PUBLIC | Modifier.FINAL);
+        nothingElse(check);
+    }
+
+    private static void nothingElse(Check check) {
+        Set<String> names = publicNames();
+        for (Method method : Raidline.class.getDeclaredMethods()) {
+            if (Modifier.isPrivate(method.getModifiers())) {
+                check.is(method.getName() + " bears a public name", names.contains(method.getName()), false);
+            }
+        }
         for (Field field : Raidline.class.getDeclaredFields()) {
             check.is("the field " + field.getName() + " is private", Modifier.isPrivate(field.getModifiers()), true);
         }
-        Constructor<?>[] constructors = Raidline.class.getDeclaredConstructors();
-        check.is("constructors", constructors.length, 1);
-        check.is("parameters of the constructor", constructors[0].getParameterCount(), 0);
-        check.is("the class is public and final", Raidline.class.getModifiers(), Modifier.PUBLIC | Modifier.FINAL);
+        for (Class<?> inside : Raidline.class.getDeclaredClasses()) {
+            boolean isHidden = (inside.getModifiers() & (Modifier.PUBLIC | Modifier.PROTECTED)) == 0;
+            check.is("the class " + inside.getSimpleName() + " is hidden", isHidden, true);
+        }
     }
 
-    private static boolean isPublicName(String name) {
-        for (String line : FACE) {
-            if (line.substring(line.indexOf(' ') + 1, line.indexOf('(')).equals(name)) {
-                return true;
+    static Set<String> publicNames() {
+        Set<String> names = new HashSet<>();
+        for (Method method : Raidline.class.getDeclaredMethods()) {
+            if (Modifier.isPublic(method.getModifiers())) {
+                names.add(method.getName());
             }
         }
-        return false;
+        return names;
     }
 
-    private static String written(Method method) {
-        StringBuilder line = new StringBuilder();
-        line.append(method.getReturnType()).append(' ').append(method.getName()).append('(');
-        for (Class<?> type : method.getParameterTypes()) {
-            line.append(line.charAt(line.length() - 1) == '(' ? "" : ",").append(type);
-        }
-        return line.append(')').toString();
+    /** A member as the document has it, but of its parameters the types alone. */
+    private static String withoutNames(String member) {
+        int from = member.indexOf('(') + 1;
+        int to = member.indexOf(')');
+        String types = Arrays.stream(member.substring(from, to).split(", ")).map(one -> one.split(" ")[0]).collect(Collectors.joining(", "));
+        return member.substring(0, from) + types + member.substring(to);
+    }
+
+    private static String written(Executable member, String name) {
+        String thrown = names(member.getExceptionTypes());
+        return Modifier.toString(member.getModifiers()) + " " + name + "(" + names(member.getParameterTypes()) + ")"
+            + (thrown.isEmpty() ? "" : " throws " + thrown);
+    }
+
+    private static String names(Class<?>[] types) {
+        return Arrays.stream(types).map(Class::getSimpleName).collect(Collectors.joining(", "));
     }
 }

@@ -1,16 +1,20 @@
+import java.lang.reflect.Field;
+import java.lang.reflect.Modifier;
 import java.nio.charset.StandardCharsets;
 import java.nio.file.Files;
 import java.nio.file.Path;
+import java.util.List;
 import java.util.regex.Matcher;
 import java.util.regex.Pattern;
 
-/** Those rules of LANGUAGE.md that a look at the text can tell. */
+/** Those rules of LANGUAGE.md that a look at the text and at the class can tell. */
 final class LanguageTest {
     private static final String[] FORBIDDEN = {
         "->", "::", "\\bcatch\\b", "\\bfinally\\b", "\\bassert\\b", "\\bsynchronized\\b", "\\bhashCode\\b", "\\btoString\\b",
         "\\bdouble\\[\\]\\[\\]", "\\bObject\\b", "\\bRandom\\b", "\\bSystem\\.(?!arraycopy)", "Exact\\b", "\\bstatic \\{",
         "^package ", "\\bMath\\.(?!max|min|abs|floorDiv|floorMod)",
     };
+    private static final List<Class<?>> CONSTANTS = List.of(int.class, long.class, boolean.class, char.class, String.class);
     private static final Pattern CLASS = Pattern.compile("^\\s*(?:public|private) (?:static )?(?:final )?class \\w+", Pattern.MULTILINE);
     private static final Pattern METHOD = Pattern.compile("^( {4}| {8})[A-Za-z][^;={}]*\\(([^()]*)\\)[^;={}]*\\{$(.*?)^\\1\\}$", Pattern.MULTILINE | Pattern.DOTALL);
 
@@ -35,5 +39,24 @@ final class LanguageTest {
             check.is("at most 7 parameters: " + head, methods.group(2).split(",").length <= 7, true);
         }
         check.is("methods were looked at", found > 60, true);
+        fields(check, Raidline.class);
+        for (Class<?> inside : Raidline.class.getDeclaredClasses()) {
+            check.is(inside.getSimpleName() + " is static", Modifier.isStatic(inside.getModifiers()), true);
+            fields(check, inside);
+        }
+    }
+
+    /** Rules 5 and 11: static fields are constants, and a class has some twenty others. */
+    private static void fields(Check check, Class<?> one) {
+        int count = 0;
+        for (Field field : one.getDeclaredFields()) {
+            if (!Modifier.isStatic(field.getModifiers())) {
+                count++;
+            } else if (!field.isSynthetic()) {
+                boolean isConstant = Modifier.isFinal(field.getModifiers()) && CONSTANTS.contains(field.getType());
+                check.is("a constant: " + field, isConstant, true);
+            }
+        }
+        check.is("some twenty fields of " + one.getSimpleName() + ", not " + count, count <= 20, true);
     }
 }
